@@ -382,7 +382,7 @@ public final class FaceRounds {
             case 1:
                 return correction(setUp, target);
             case 2:
-                return centred(setUp, target);
+                return centredDirection(setUp, target);
             default:
                 return reckoning.mostLeft(target);
         }
@@ -397,7 +397,7 @@ public final class FaceRounds {
             return NONE;
         }
         if (centred) {
-            return Math.floorMod(centred(setUp, other) - centred(setUp, one), CIRCLE);
+            return Math.floorMod(centredDirection(setUp, other) - centredDirection(setUp, one), CIRCLE);
         }
         return reckoning.angleBetween(one, other);
     }
@@ -510,7 +510,7 @@ public final class FaceRounds {
         return (int) (across / (state.distances[target] * 1000000L));
     }
 
-    private int centred(int setUp, int target) {
+    private int centredDirection(int setUp, int target) {
         // Where a target has a direction the target 0 has one, too.
         int turned = reckoning.directions[target] + correction(setUp, target) - correction(setUp, 0);
         return Math.floorMod(turned, CIRCLE);

@@ -8,6 +8,7 @@ public final class DirectionsTest {
     public static void main(String[] args) {
         clean();
         cleanTies();
+        cleanAll();
         cleanAtTheLimit();
         cleanWrongly();
         round();
@@ -81,6 +82,25 @@ public final class DirectionsTest {
         due.of("one after the other", x.clean(0), 4);
         due.of("target 1 is left in round", x.direction(0, 1, 4), 8);
         due.of("target 5 is left in round", x.direction(0, 5, 4), 8);
+    }
+
+    private static void cleanAll() {
+        due.in("promise 9, as many as can be");
+        FaceRounds x = withTarget1(0, 300, 600, 900, 1200, 1500);
+        for (int round = 0; round < 6; round++) {
+            for (int target = 2; target < 6; target++) {
+                Due.sight(x, 0, round, target, round * 200000 + target * 5000 + round * 300);
+            }
+        }
+        due.of("count(4)", x.count(4), 30);
+        due.of("clean(0)", x.clean(0), 25);
+        due.of("count(3)", x.count(3), 50);
+        for (int target = 1; target < 6; target++) {
+            due.of("rounds of target " + target, x.direction(0, target, 4), 32);
+        }
+        due.of("rounds of target 0", x.direction(0, 0, 4), 63);
+        due.of("undo()", x.undo(), 3);
+        due.of("count(3)", x.count(3), 0);
     }
 
     private static void cleanAtTheLimit() {
