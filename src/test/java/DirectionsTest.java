@@ -10,8 +10,10 @@ public final class DirectionsTest {
         cleanTies();
         cleanAll();
         cleanAtTheLimit();
+        cleanWithoutSign();
         cleanWrongly();
         round();
+        sets();
         roundErrors();
         meanErrors();
         reducedDirections();
@@ -20,6 +22,7 @@ public final class DirectionsTest {
         reasons();
         reducedErrors();
         directionOverRounds();
+        directionFromTheFirstRound();
         directionAcrossZero();
         directionOpposite();
         directionErrors();
@@ -32,20 +35,10 @@ public final class DirectionsTest {
         due.end();
     }
 
-    /** A book whose rounds sight target 0 at the circle's turn and target 1 so much further. */
-    private static FaceRounds withTarget1(int... further) {
-        FaceRounds x = Due.withRounds(further.length);
-        for (int round = 0; round < further.length; round++) {
-            Due.sight(x, 0, round, 0, round * 200000);
-            Due.sight(x, 0, round, 1, (round * 200000 + further[round]) % 1296000);
-        }
-        return x;
-    }
-
     private static void clean() {
         due.in("promise 9");
         // Only the round 1 is bad in truth: it draws the mean away from the others.
-        FaceRounds x = withTarget1(1000, 1100, 1004, 1000);
+        FaceRounds x = Books.withTarget1(1000, 1100, 1004, 1000);
         due.of("direction", x.direction(0, 1, 0), 1026);
         int[] left = {-26, 74, -22, -26};
         for (int round = 0; round < 4; round++) {
@@ -69,16 +62,16 @@ public final class DirectionsTest {
 
     private static void cleanTies() {
         due.in("promise 9, ties");
-        FaceRounds x = withTarget1(1000, 1050);
+        FaceRounds x = Books.withTarget1(1000, 1050);
         due.of("left", x.reduced(0, 0, 1, 1), -25);
         due.of("left", x.reduced(0, 1, 1, 1), 25);
         due.of("clean(0)", x.clean(0), 1);
         due.of("the lowest round is struck", x.direction(0, 1, 4), 2);
         due.of("direction", x.direction(0, 1, 0), 1050);
 
-        x = withTarget1(0, 300, 600, 900);
-        Due.sight(x, 0, 0, 5, 7000);
-        Due.sight(x, 0, 3, 5, 607900);
+        x = Books.withTarget1(0, 300, 600, 900);
+        Books.sight(x, 0, 0, 5, 7000);
+        Books.sight(x, 0, 3, 5, 607900);
         due.of("one after the other", x.clean(0), 4);
         due.of("target 1 is left in round", x.direction(0, 1, 4), 8);
         due.of("target 5 is left in round", x.direction(0, 5, 4), 8);
@@ -86,10 +79,10 @@ public final class DirectionsTest {
 
     private static void cleanAll() {
         due.in("promise 9, as many as can be");
-        FaceRounds x = withTarget1(0, 300, 600, 900, 1200, 1500);
+        FaceRounds x = Books.withTarget1(0, 300, 600, 900, 1200, 1500);
         for (int round = 0; round < 6; round++) {
             for (int target = 2; target < 6; target++) {
-                Due.sight(x, 0, round, target, round * 200000 + target * 5000 + round * 300);
+                Books.sight(x, 0, round, target, round * 200000 + target * 5000 + round * 300);
             }
         }
         due.of("count(4)", x.count(4), 30);
@@ -105,23 +98,43 @@ public final class DirectionsTest {
 
     private static void cleanAtTheLimit() {
         due.in("promise 9, limit");
-        FaceRounds x = withTarget1(1000, 1040);
+        FaceRounds x = Books.withTarget1(1000, 1040);
         due.of("20 is not greater than 20", x.clean(0), NONE);
         due.of("count(4)", x.count(4), 0);
         x.setLimit(19);
         due.of("count(4)", x.count(4), 2);
         x.setLimit(20);
         due.of("count(7)", x.count(7), 4);
-        x = withTarget1(1000, 1041);
+        x = Books.withTarget1(1000, 1041);
         due.of("-20 is not bad", x.round(0, 0, 7), 0);
         due.of("21 is bad", x.round(0, 1, 7), 2);
         due.of("clean(0)", x.clean(0), 1);
         due.of("rounds", x.direction(0, 1, 4), 1);
     }
 
+    private static void cleanWithoutSign() {
+        due.in("promise 9, without a sign");
+        FaceRounds x = Books.withTarget1(1000, 1000, 1000, 900);
+        int[] left = {25, 25, 25, -75};
+        for (int round = 0; round < 4; round++) {
+            due.of("left in round " + round, x.reduced(0, round, 1, 1), left[round]);
+            due.of("bad in round " + round, x.round(0, round, 7), 2);
+        }
+        due.of("the greatest without a sign", x.direction(0, 1, 3), 75);
+        due.of("clean(0)", x.clean(0), 1);
+        due.of("the one far below is struck", x.direction(0, 1, 4), 7);
+        due.of("count(4)", x.count(4), 0);
+        due.of("the greatest then", x.direction(0, 1, 3), 0);
+
+        x = Books.withTarget1(1000, 1000, 1000, 972);
+        due.of("left below", x.reduced(0, 3, 1, 1), -21);
+        due.of("bad is the one below", x.count(4), 1);
+        due.of("it is in round 3", x.round(0, 3, 7), 2);
+    }
+
     private static void cleanWrongly() {
         due.in("promise 9, errors");
-        FaceRounds x = withTarget1(1000, 1100);
+        FaceRounds x = Books.withTarget1(1000, 1100);
         due.of("clean(-1)", x.clean(-1), UNKNOWN);
         due.of("clean(1)", x.clean(1), UNKNOWN);
         x.setUp();
@@ -132,7 +145,7 @@ public final class DirectionsTest {
 
     private static void round() {
         due.in("promise 19");
-        FaceRounds x = withTarget1(1000, 1100);
+        FaceRounds x = Books.withTarget1(1000, 1100);
         x.point(0, 0, 4, 0, 9);
         x.close(0, 0, 0, 8);
         x.strike(0, 0, 4, 0, true);
@@ -148,9 +161,33 @@ public final class DirectionsTest {
         due.of("bad in round 1 then", x.round(0, 1, 7), 0);
     }
 
+    private static void sets() {
+        due.in("sets of targets and of rounds, as bits");
+        FaceRounds x = Books.withRounds(6);
+        for (int round = 0; round < 6; round++) {
+            Books.sight(x, 0, round, 0, 0);
+            Books.sight(x, 0, round, 2, 100 * round);
+            Books.sight(x, 0, round, 5, round == 3 ? 900 : 0);
+        }
+        due.of("used are 0, 2 and 5", x.round(0, 5, 4), 37);
+        due.of("bad are 2 and 5", x.round(0, 3, 7), 36);
+        due.of("bad are 2 and 5, the mean of which is drawn away", x.round(0, 0, 7), 36);
+        due.of("all rounds", x.direction(0, 5, 4), 63);
+        x.strike(0, 0, 5, 0, true);
+        x.strike(0, 2, 5, 1, true);
+        x.wipe(0, 4, 5);
+        due.of("rounds 1, 3 and 5", x.direction(0, 5, 4), 42);
+        due.of("used are 0 and 2", x.round(0, 4, 4), 5);
+        due.of("bad is 2", x.round(0, 4, 7), 4);
+        x.wipe(0, 5, 0);
+        due.of("rounds 1 and 3", x.direction(0, 5, 4), 10);
+        due.of("none is used", x.round(0, 5, 4), 0);
+        due.of("none is bad", x.round(0, 5, 7), 0);
+    }
+
     private static void roundErrors() {
         due.in("promise 19, errors");
-        FaceRounds x = Due.withRounds(1);
+        FaceRounds x = Books.withRounds(1);
         due.of("set-up 1", x.round(1, 0, 0), UNKNOWN);
         due.of("set-up -1", x.round(-1, 0, 0), UNKNOWN);
         due.of("round 1", x.round(0, 1, 8), UNKNOWN);
@@ -161,7 +198,7 @@ public final class DirectionsTest {
 
     private static void meanErrors() {
         due.in("promise 19, mean of the errors");
-        FaceRounds x = Due.withRounds(2);
+        FaceRounds x = Books.withRounds(2);
         x.point(0, 0, 0, 0, 100);
         x.point(0, 0, 0, 1, 648110);
         due.of("of one", x.round(0, 0, 6), -5);
@@ -178,7 +215,7 @@ public final class DirectionsTest {
 
     private static void reducedDirections() {
         due.in("promise 20");
-        FaceRounds x = Due.withRounds(1);
+        FaceRounds x = Books.withRounds(1);
         x.point(0, 0, 0, 0, 100);
         x.point(0, 0, 0, 1, 648110);
         x.point(0, 0, 1, 0, 50);
@@ -207,8 +244,8 @@ public final class DirectionsTest {
             {0, 1, -324000, 323999}
         };
         for (int[] one : cases) {
-            FaceRounds x = Due.withRounds(1);
-            Due.sight(x, 0, 0, 0, 0);
+            FaceRounds x = Books.withRounds(1);
+            Books.sight(x, 0, 0, 0, 0);
             x.point(0, 0, 3, 0, one[0]);
             x.point(0, 0, 3, 1, one[1]);
             String call = "faces " + one[0] + " and " + one[1];
@@ -219,7 +256,7 @@ public final class DirectionsTest {
 
     private static void driftIsTakenOff() {
         due.in("promise 20, drift");
-        FaceRounds x = Due.withRounds(1);
+        FaceRounds x = Books.withRounds(1);
         x.point(0, 0, 0, 0, 0);
         x.point(0, 0, 1, 0, 1000);
         x.point(0, 0, 2, 0, 2000);
@@ -242,7 +279,7 @@ public final class DirectionsTest {
 
     private static void reasons() {
         due.in("promise 20, reasons");
-        FaceRounds x = Due.withRounds(2);
+        FaceRounds x = Books.withRounds(2);
         due.of("target 0, nothing", x.reduced(0, 0, 0, 3), 1);
         due.of("target 1, nothing", x.reduced(0, 0, 1, 3), 1);
         x.point(0, 0, 1, 1, 5);
@@ -277,7 +314,7 @@ public final class DirectionsTest {
 
     private static void reducedErrors() {
         due.in("promise 20, errors");
-        FaceRounds x = Due.withRounds(1);
+        FaceRounds x = Books.withRounds(1);
         due.of("set-up 1", x.reduced(1, 0, 0, 0), UNKNOWN);
         due.of("round 1", x.reduced(0, 1, 0, 4), UNKNOWN);
         due.of("target 6", x.reduced(0, 0, 6, 4), UNKNOWN);
@@ -288,12 +325,12 @@ public final class DirectionsTest {
 
     private static void directionOverRounds() {
         due.in("promise 21");
-        FaceRounds x = withTarget1(1000, 999);
+        FaceRounds x = Books.withTarget1(1000, 999);
         due.of("rounded down below 0", x.direction(0, 1, 0), 999);
         due.of("left", x.reduced(0, 0, 1, 1), 1);
         due.of("left", x.reduced(0, 1, 1, 1), 0);
         due.of("greatest left", x.direction(0, 1, 3), 1);
-        x = withTarget1(1000, 1010, 1021);
+        x = Books.withTarget1(1000, 1010, 1021);
         due.of("mean of three", x.direction(0, 1, 0), 1010);
         due.of("greatest left", x.direction(0, 1, 3), 11);
         due.of("rounds", x.direction(0, 1, 4), 7);
@@ -310,17 +347,33 @@ public final class DirectionsTest {
         due.of("rounds of target 0", x.direction(0, 0, 4), 3);
     }
 
+    /** Over half a circle it matters from which round the differences are told. */
+    private static void directionFromTheFirstRound() {
+        due.in("promise 21, first such round");
+        FaceRounds x = Books.withTarget1(700000, 0, 648000);
+        x.strike(0, 0, 1, 1, true);
+        due.of("round 0 is not used", x.direction(0, 1, 0), 324000);
+        x = Books.withTarget1(700000, 648000, 0);
+        x.wipe(0, 0, 1);
+        due.of("nor is it without the target", x.direction(0, 1, 0), 972000);
+        x = Books.withTarget1(700000, 648000, 0, 1);
+        x.strike(0, 0, 0, 0, true);
+        x.strike(0, 1, 1, 0, true);
+        due.of("nor without the target 0, and round 1", x.direction(0, 1, 0), 0);
+        due.of("rounds", x.direction(0, 1, 4), 12);
+    }
+
     private static void directionAcrossZero() {
         due.in("promise 21, across zero");
-        FaceRounds x = withTarget1(1295990, 10);
+        FaceRounds x = Books.withTarget1(1295990, 10);
         due.of("brought into the circle", x.direction(0, 1, 0), 0);
         due.of("left", x.reduced(0, 0, 1, 1), -10);
         due.of("left", x.reduced(0, 1, 1, 1), 10);
-        x = withTarget1(10, 1295980);
+        x = Books.withTarget1(10, 1295980);
         due.of("from above", x.direction(0, 1, 0), 1295995);
         due.of("left", x.reduced(0, 0, 1, 1), 15);
         due.of("left", x.reduced(0, 1, 1, 1), -15);
-        x = withTarget1(3, 1295998);
+        x = Books.withTarget1(3, 1295998);
         due.of("rounded down to 0", x.direction(0, 1, 0), 0);
         due.of("left", x.reduced(0, 1, 1, 1), -2);
         due.of("greatest left", x.direction(0, 1, 3), 3);
@@ -328,20 +381,20 @@ public final class DirectionsTest {
 
     private static void directionOpposite() {
         due.in("promise 21, opposite");
-        FaceRounds x = withTarget1(0, 648000);
+        FaceRounds x = Books.withTarget1(0, 648000);
         due.of("half a circle is above", x.direction(0, 1, 0), 324000);
         due.of("left", x.reduced(0, 0, 1, 1), -324000);
-        x = withTarget1(648000, 0);
+        x = Books.withTarget1(648000, 0);
         due.of("and from the other one", x.direction(0, 1, 0), 972000);
         due.of("left", x.reduced(0, 0, 1, 1), -324000);
         due.of("left", x.reduced(0, 1, 1, 1), 324000);
-        x = withTarget1(0, 648001);
+        x = Books.withTarget1(0, 648001);
         due.of("a second more is below", x.direction(0, 1, 0), 972000);
     }
 
     private static void directionErrors() {
         due.in("promise 21, errors");
-        FaceRounds x = Due.withRounds(1);
+        FaceRounds x = Books.withRounds(1);
         due.of("set-up 1", x.direction(1, 0, 0), UNKNOWN);
         due.of("set-up -1", x.direction(-1, 0, 0), UNKNOWN);
         due.of("target 6", x.direction(0, 6, 5), UNKNOWN);
@@ -356,7 +409,7 @@ public final class DirectionsTest {
 
     private static void corrections() {
         due.in("promise 21, corrections");
-        FaceRounds x = withTarget1(162000);
+        FaceRounds x = Books.withTarget1(162000);
         due.of("without an offset", x.direction(0, 1, 1), 0);
         x.centre(0, 30, 6);
         // (6 - 3) sectors: 30 * 707 * 206265 / (100 * 1000000) = 43.7
@@ -376,7 +429,7 @@ public final class DirectionsTest {
     private static void correctionSectors() {
         due.in("promise 21, sectors");
         int[] half = {0, 5288, 10210, 14437, 17683, 19725, 20420, 19725, 17683, 14437, 10210, 5288};
-        FaceRounds x = withTarget1(27000);
+        FaceRounds x = Books.withTarget1(27000);
         x.setDistance(0, 1);
         x.setDistance(1, 1);
         for (int sector = 0; sector < 24; sector++) {
@@ -387,13 +440,13 @@ public final class DirectionsTest {
             due.of("centred target 0", x.direction(0, 0, 2), 0);
             due.of("centred target 1", x.direction(0, 1, 2), 27000);
         }
-        x = withTarget1(27001);
+        x = Books.withTarget1(27001);
         x.setDistance(1, 1);
         x.centre(0, 99, 0);
         due.of("over the edge", x.direction(0, 1, 1), -5288);
         x.centre(0, 99, 1);
         due.of("over the edge", x.direction(0, 1, 1), 0);
-        x = withTarget1(26999);
+        x = Books.withTarget1(26999);
         x.setDistance(1, 1);
         x.centre(0, 99, 0);
         due.of("before the edge", x.direction(0, 1, 1), 0);
@@ -401,7 +454,7 @@ public final class DirectionsTest {
 
     private static void centredDirections() {
         due.in("promise 21, centred");
-        FaceRounds x = withTarget1(162000);
+        FaceRounds x = Books.withTarget1(162000);
         x.centre(0, 30, 6);
         // Target 0: the sine is 1000, 61.8; target 1: 43.
         due.of("correction of target 0", x.direction(0, 0, 1), 61);
@@ -409,22 +462,22 @@ public final class DirectionsTest {
         due.of("the direction itself", x.direction(0, 1, 0), 162000);
         x.setUp();
         x.begin(1);
-        Due.sight(x, 1, 0, 0, 0);
-        Due.sight(x, 1, 0, 1, 5);
+        Books.sight(x, 1, 0, 0, 0);
+        Books.sight(x, 1, 0, 1, 5);
         due.of("the other set-up", x.direction(1, 1, 2), 5);
         x.centre(1, 30, 6);
         x.setDistance(1, 200);
         due.of("below 0", x.direction(1, 1, 2), 5 + 30 - 61 + 1296000);
         x.setDistance(1, 100);
-        Due.sight(x, 1, 0, 2, 1295999);
+        Books.sight(x, 1, 0, 2, 1295999);
         x.setDistance(2, 1);
         due.of("above a circle", x.direction(1, 2, 2), 1295999 + 6187 - 61 - 1296000);
     }
 
     private static void angles() {
         due.in("promise 22");
-        FaceRounds x = withTarget1(162000);
-        Due.sight(x, 0, 0, 2, 1000000);
+        FaceRounds x = Books.withTarget1(162000);
+        Books.sight(x, 0, 0, 2, 1000000);
         due.of("angle(0, 1, 2)", x.angle(0, 1, 2, false), 838000);
         due.of("angle(0, 2, 1)", x.angle(0, 2, 1, false), 458000);
         due.of("angle(0, 0, 2)", x.angle(0, 0, 2, false), 1000000);
@@ -450,11 +503,11 @@ public final class DirectionsTest {
 
     private static void byAngles() {
         due.in("promise 23");
-        FaceRounds x = withTarget1(900000);
-        Due.sight(x, 0, 0, 2, 5000);
-        Due.sight(x, 0, 0, 3, 1295999);
-        Due.sight(x, 0, 0, 4, 900000);
-        Due.sight(x, 0, 0, 5, 0);
+        FaceRounds x = Books.withTarget1(900000);
+        Books.sight(x, 0, 0, 2, 5000);
+        Books.sight(x, 0, 0, 3, 1295999);
+        Books.sight(x, 0, 0, 4, 900000);
+        Books.sight(x, 0, 0, 5, 0);
         int[] sums = {0, 900000, 5000, 1295999, 900000, 0};
         for (int target = 0; target < 6; target++) {
             due.of("target " + target, x.byAngles(0, target), sums[target]);
@@ -475,15 +528,15 @@ public final class DirectionsTest {
 
     private static void counts() {
         due.in("promise 24");
-        FaceRounds x = withTarget1(1000, 1100);
+        FaceRounds x = Books.withTarget1(1000, 1100);
         x.setUp();
         x.begin(1);
         x.begin(1);
         x.begin(1);
         for (int round = 0; round < 2; round++) {
-            Due.sight(x, 1, round, 0, 0);
-            Due.sight(x, 1, round, 2, round * 50);
-            Due.sight(x, 1, round, 3, round * 60);
+            Books.sight(x, 1, round, 0, 0);
+            Books.sight(x, 1, round, 2, round * 50);
+            Books.sight(x, 1, round, 3, round * 60);
         }
         x.point(1, 2, 4, 1, 0);
         x.close(1, 2, 1, 0);

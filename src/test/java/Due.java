@@ -25,27 +25,4 @@ final class Due {
             System.exit(1);
         }
     }
-
-    static void typeAll(FaceRounds x, String text) {
-        x.clearText();
-        for (int i = 0; i < text.length(); i++) {
-            x.type(text.charAt(i));
-        }
-    }
-
-    /** Points at a target in both faces without any error of the line of sight. */
-    static void sight(FaceRounds x, int setUp, int round, int target, int reading) {
-        x.point(setUp, round, target, 0, reading);
-        x.point(setUp, round, target, 1, (reading + 648000) % 1296000);
-    }
-
-    /** A book with one set-up and so many rounds in it, all without pointings. */
-    static FaceRounds withRounds(int rounds) {
-        FaceRounds x = new FaceRounds();
-        x.setUp();
-        for (int i = 0; i < rounds; i++) {
-            x.begin(0);
-        }
-        return x;
-    }
 }

@@ -7,6 +7,7 @@ public final class HistoryTest {
         theOldestIsDropped();
         everyActIsRecorded();
         undoBringsAllBack();
+        nothingIsLeftBehind();
         keepAndRestore();
         snapshotIsApart();
         due.end();
@@ -64,7 +65,7 @@ public final class HistoryTest {
         x.point(0, 0, 0, 0, 5);
         due.of("point", x.count(7), 3);
         x.undo();
-        Due.typeAll(x, "0l0:0:0;0r180:0:0;1l1:0:0;1r181:0:0");
+        Books.typeAll(x, "0l0:0:0;0r180:0:0;1l1:0:0;1r181:0:0");
         x.pointAll(0, 0);
         due.of("pointAll", x.count(7), 3);
         x.undo();
@@ -101,9 +102,9 @@ public final class HistoryTest {
 
     private static void undoBringsAllBack() {
         due.in("undo of all parts");
-        FaceRounds x = Due.withRounds(1);
-        Due.sight(x, 0, 0, 0, 100);
-        Due.sight(x, 0, 0, 1, 5000);
+        FaceRounds x = Books.withRounds(1);
+        Books.sight(x, 0, 0, 0, 100);
+        Books.sight(x, 0, 0, 1, 5000);
         x.close(0, 0, 0, 130);
         x.strike(0, 0, 1, 1, true);
         due.of("undo()", x.undo(), 3);
@@ -119,6 +120,43 @@ public final class HistoryTest {
         due.of("its reading", x.pointing(0, 0, 0, 1, 1), 6000);
     }
 
+    private static void nothingIsLeftBehind() {
+        due.in("undo and restore leave nothing behind");
+        FaceRounds x = new FaceRounds();
+        x.keep();
+        for (int way = 0; way < 2; way++) {
+            x.setUp();
+            x.begin(0);
+            x.point(0, 0, 0, 0, 100);
+            x.point(0, 0, 1, 0, 200);
+            x.strike(0, 0, 0, 0, true);
+            x.close(0, 0, 0, 300);
+            x.centre(0, 4, 5);
+            x.setDistance(3, 6);
+            due.of("restore()", x.restore(), 0);
+            due.of("begin(0)", x.begin(0), FaceRounds.UNKNOWN);
+            due.of("setUp()", x.setUp(), 0);
+            due.of("centring", x.centring(0, false) * 100 + x.centring(0, true), 0);
+            due.of("begin(0)", x.begin(0), 0);
+            due.of("no pointing", x.pointing(0, 0, 0, 0, 0), FaceRounds.NONE);
+            due.of("no closing", x.round(0, 0, 2), FaceRounds.NONE);
+            due.of("counts", x.count(2) + x.count(3) + x.count(6), 0);
+            due.of("distance", x.setDistance(3, 7), 100);
+            x.restore();
+        }
+        x.setUp();
+        x.begin(0);
+        x.point(0, 0, 5, 1, 100);
+        x.close(0, 0, 1, 90);
+        for (int left = 3; left > 0; left--) {
+            due.of("undo()", x.undo(), left);
+        }
+        due.of("begin(0)", x.begin(0), 0);
+        due.of("no pointing", x.pointing(0, 0, 1, 0, 0), FaceRounds.NONE);
+        due.of("open", x.point(0, 0, 5, 1, 70), 1);
+        due.of("not struck", x.round(0, 0, 5), 0);
+    }
+
     private static void keepAndRestore() {
         due.in("promises 16 and 17");
         FaceRounds x = new FaceRounds();
@@ -129,7 +167,7 @@ public final class HistoryTest {
         due.of("count(7)", x.count(7), 1);
         x.setUp();
         x.begin(0);
-        Due.sight(x, 0, 0, 0, 100);
+        Books.sight(x, 0, 0, 0, 100);
         x.close(0, 0, 1, 5);
         x.strike(0, 0, 0, 0, true);
         x.centre(0, 3, 4);
@@ -144,7 +182,7 @@ public final class HistoryTest {
         x.centre(0, 0, 0);
         x.setLimit(20);
         x.setDistance(2, 100);
-        Due.typeAll(x, "abc");
+        Books.typeAll(x, "abc");
         due.of("restore()", x.restore(), 1);
         due.of("count(0)", x.count(0), 1);
         due.of("drift", x.round(0, 0, 3), drift);
@@ -164,7 +202,7 @@ public final class HistoryTest {
 
     private static void snapshotIsApart() {
         due.in("snapshot");
-        FaceRounds x = Due.withRounds(1);
+        FaceRounds x = Books.withRounds(1);
         x.point(0, 0, 0, 0, 100);
         x.keep();
         x.restore();

@@ -20,7 +20,7 @@ public final class PointingsTest {
 
     private static void point() {
         due.in("promise 4");
-        FaceRounds x = Due.withRounds(2);
+        FaceRounds x = Books.withRounds(2);
         int[] targets = {3, 0, 5, 1, 4, 2};
         for (int i = 0; i < 6; i++) {
             due.of("point in face 0", x.point(0, 1, targets[i], 0, i * 1000), i + 1);
@@ -43,7 +43,7 @@ public final class PointingsTest {
 
     private static void pointWrongly() {
         due.in("promise 4, errors");
-        FaceRounds x = Due.withRounds(1);
+        FaceRounds x = Books.withRounds(1);
         x.point(0, 0, 1, 0, 5);
         int before = x.count(7);
         due.of("no such set-up", x.point(1, 0, 1, 0, 5), FaceRounds.UNKNOWN);
@@ -73,7 +73,7 @@ public final class PointingsTest {
 
     private static void close() {
         due.in("promise 6");
-        FaceRounds x = Due.withRounds(6);
+        FaceRounds x = Books.withRounds(6);
         int[] first = {100, 1295990, 10, 0, 648000, 1};
         int[] closing = {110, 20, 1295980, 648000, 0, 648002};
         int[] drift = {10, 30, -30, 648000, 648000, -647999};
@@ -90,7 +90,16 @@ public final class PointingsTest {
         due.of("count(6)", x.count(6), 5);
         due.of("round(0, 5, 3)", x.round(0, 5, 3), FaceRounds.NONE);
 
-        x = Due.withRounds(1);
+        x = Books.withRounds(1);
+        x.point(0, 0, 3, 1, 700);
+        x.point(0, 0, 2, 1, 500);
+        x.point(0, 0, 4, 1, 600);
+        x.strike(0, 0, 3, 1, true);
+        x.strike(0, 0, 4, 1, true);
+        due.of("close behind a struck first one of three", x.close(0, 0, 1, 706), 6);
+        due.of("corrected, struck ones are counted", x.pointing(0, 0, 1, 2, 3), 596);
+
+        x = Books.withRounds(1);
         x.point(0, 0, 2, 0, 500);
         x.strike(0, 0, 2, 0, true);
         due.of("close behind a struck first one", x.close(0, 0, 0, 503), 3);
@@ -104,7 +113,7 @@ public final class PointingsTest {
 
     private static void closeWrongly() {
         due.in("promise 6, errors");
-        FaceRounds x = Due.withRounds(1);
+        FaceRounds x = Books.withRounds(1);
         x.point(0, 0, 0, 0, 5);
         due.of("no such set-up", x.close(1, 0, 0, 5), FaceRounds.UNKNOWN);
         due.of("no such round", x.close(0, 1, 0, 5), FaceRounds.UNKNOWN);
@@ -120,7 +129,7 @@ public final class PointingsTest {
         due.of("drift", x.round(0, 0, 2), -6);
         due.of("count(7)", x.count(7), 4);
 
-        x = Due.withRounds(1);
+        x = Books.withRounds(1);
         x.point(0, 0, 0, 0, 5);
         x.wipe(0, 0, 0);
         due.of("all are wiped", x.close(0, 0, 0, 5), FaceRounds.NOT_POSSIBLE);
@@ -128,10 +137,10 @@ public final class PointingsTest {
 
     private static void strike() {
         due.in("promise 7");
-        FaceRounds x = Due.withRounds(2);
-        Due.sight(x, 0, 0, 0, 0);
-        Due.sight(x, 0, 0, 3, 1000);
-        Due.sight(x, 0, 1, 3, 1000);
+        FaceRounds x = Books.withRounds(2);
+        Books.sight(x, 0, 0, 0, 0);
+        Books.sight(x, 0, 0, 3, 1000);
+        Books.sight(x, 0, 1, 3, 1000);
         due.of("strike(0, 0, 3, 1)", x.strike(0, 0, 3, 1, true), 1);
         due.of("count(7)", x.count(7), 4);
         due.of("struck", x.pointing(0, 0, 1, 1, 2), 1);
@@ -154,7 +163,7 @@ public final class PointingsTest {
 
     private static void strikeWrongly() {
         due.in("promise 7, errors");
-        FaceRounds x = Due.withRounds(1);
+        FaceRounds x = Books.withRounds(1);
         x.point(0, 0, 2, 0, 5);
         due.of("no such set-up", x.strike(1, 0, 2, 0, true), FaceRounds.UNKNOWN);
         due.of("no such round", x.strike(0, 1, 2, 5, true), FaceRounds.UNKNOWN);
@@ -180,7 +189,7 @@ public final class PointingsTest {
 
     private static void wipe() {
         due.in("promise 8");
-        FaceRounds x = Due.withRounds(1);
+        FaceRounds x = Books.withRounds(1);
         x.point(0, 0, 0, 0, 100);
         x.point(0, 0, 1, 0, 200);
         x.point(0, 0, 2, 0, 300);
@@ -213,7 +222,7 @@ public final class PointingsTest {
 
     private static void wipeWrongly() {
         due.in("promise 8, errors");
-        FaceRounds x = Due.withRounds(2);
+        FaceRounds x = Books.withRounds(2);
         x.point(0, 0, 0, 0, 100);
         x.point(0, 0, 1, 0, 200);
         x.point(0, 0, 1, 1, 300);
@@ -237,7 +246,7 @@ public final class PointingsTest {
 
     private static void pointing() {
         due.in("promise 18");
-        FaceRounds x = Due.withRounds(2);
+        FaceRounds x = Books.withRounds(2);
         x.point(0, 1, 5, 0, 123);
         x.point(0, 1, 2, 1, 456);
         x.point(0, 1, 5, 1, 789);
@@ -257,7 +266,7 @@ public final class PointingsTest {
         int[] closings = {110, 90, 100};
         int[][] answers = {{100, 197, 294}, {100, 204, 307}, {100, 200, 300}};
         for (int i = 0; i < closings.length; i++) {
-            FaceRounds x = Due.withRounds(1);
+            FaceRounds x = Books.withRounds(1);
             x.point(0, 0, 0, 0, 100);
             x.point(0, 0, 1, 0, 200);
             x.point(0, 0, 2, 0, 300);
@@ -269,7 +278,7 @@ public final class PointingsTest {
             }
             due.of("the open face", x.pointing(0, 0, 1, 0, 3), 300);
         }
-        FaceRounds x = Due.withRounds(1);
+        FaceRounds x = Books.withRounds(1);
         x.point(0, 0, 0, 0, 100);
         x.point(0, 0, 1, 0, 0);
         x.close(0, 0, 0, 110);
@@ -282,7 +291,7 @@ public final class PointingsTest {
 
     private static void correctedAfterWiping() {
         due.in("promise 18, corrected after wiping");
-        FaceRounds x = Due.withRounds(1);
+        FaceRounds x = Books.withRounds(1);
         x.point(0, 0, 0, 0, 100);
         x.point(0, 0, 1, 0, 200);
         x.point(0, 0, 2, 0, 300);
@@ -302,7 +311,7 @@ public final class PointingsTest {
 
     private static void pointingWrongly() {
         due.in("promise 18, errors");
-        FaceRounds x = Due.withRounds(1);
+        FaceRounds x = Books.withRounds(1);
         x.point(0, 0, 0, 0, 5);
         due.of("no such set-up", x.pointing(1, 0, 0, 0, 0), FaceRounds.UNKNOWN);
         due.of("no such round", x.pointing(0, 1, 2, -1, 4), FaceRounds.UNKNOWN);

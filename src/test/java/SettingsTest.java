@@ -6,6 +6,7 @@ public final class SettingsTest {
         setLimit();
         centre();
         setDistance();
+        distanceFromAllSetUps();
         centring();
         due.end();
     }
@@ -72,6 +73,28 @@ public final class SettingsTest {
         due.of("count(7)", x.count(7), 3);
         due.of("undo()", x.undo(), 2);
         due.of("setDistance(0, 3)", x.setDistance(0, 3), 1);
+    }
+
+    private static void distanceFromAllSetUps() {
+        due.in("promise 12, the same from all set-ups");
+        FaceRounds x = new FaceRounds();
+        for (int setUp = 0; setUp < 4; setUp++) {
+            x.setUp();
+            x.begin(setUp);
+            Books.sight(x, setUp, 0, 0, 0);
+            x.centre(setUp, 10 * (setUp + 1), 6);
+        }
+        int[] at100 = {20, 41, 61, 82};
+        int[] at50 = {41, 82, 123, 165};
+        for (int setUp = 0; setUp < 4; setUp++) {
+            due.of("distance 100 from " + setUp, x.direction(setUp, 0, 1), at100[setUp]);
+        }
+        x.setDistance(0, 50);
+        for (int setUp = 0; setUp < 4; setUp++) {
+            due.of("distance 50 from " + setUp, x.direction(setUp, 0, 1), at50[setUp]);
+        }
+        x.undo();
+        due.of("undone", x.direction(3, 0, 1), 82);
     }
 
     private static void centring() {

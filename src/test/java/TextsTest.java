@@ -34,15 +34,15 @@ public final class TextsTest {
 
     private static void pointAll() {
         due.in("promise 5");
-        FaceRounds x = Due.withRounds(2);
-        Due.typeAll(x, "5r359:59:59");
+        FaceRounds x = Books.withRounds(2);
+        Books.typeAll(x, "5r359:59:59");
         due.of("one pointing", x.pointAll(0, 1), 1);
         due.of("the text stays", x.count(8), 11);
         due.of("target", x.pointing(0, 1, 1, 0, 0), 5);
         due.of("reading", x.pointing(0, 1, 1, 0, 1), 1295999);
         due.of("not in face 0", x.round(0, 1, 0), 0);
         due.of("not in round 0", x.round(0, 0, 1), 0);
-        Due.typeAll(x, "0l0:0:0;5l10:20:30;0r180:5:9;1l0:59:9");
+        Books.typeAll(x, "0l0:0:0;5l10:20:30;0r180:5:9;1l0:59:9");
         due.of("count(7)", x.count(7), 4);
         due.of("undo()", x.undo(), 3);
         due.of("four pointings", x.pointAll(0, 1), 4);
@@ -68,23 +68,23 @@ public final class TextsTest {
 
     private static void longTexts() {
         due.in("promise 5, long texts");
-        FaceRounds x = Due.withRounds(1);
+        FaceRounds x = Books.withRounds(1);
         String seven = "0l0:0:0;1l0:0:1;2l0:0:2;3l0:0:3;4l0:0:4;5l0:0:5;0r0:0:6";
-        Due.typeAll(x, seven);
+        Books.typeAll(x, seven);
         due.of("seven", x.pointAll(0, 0), 7);
         due.of("last of face 0", x.pointing(0, 0, 0, 5, 1), 5);
         due.of("face 1", x.pointing(0, 0, 1, 0, 1), 6);
-        Due.typeAll(x, seven + ";1r0:");
+        Books.typeAll(x, seven + ";1r0:");
         due.of("ends too early at 60", x.pointAll(0, 0), -2000160);
-        Due.typeAll(x, seven + ";1r0;");
+        Books.typeAll(x, seven + ";1r0;");
         due.of("fault in the last place", x.pointAll(0, 0), -2000159);
-        Due.typeAll(x, seven + ";");
+        Books.typeAll(x, seven + ";");
         due.of("ends behind the seventh", x.pointAll(0, 0), -2000156);
-        x = Due.withRounds(1);
-        Due.typeAll(x, "0l100:10:10;1l200:20:20;2l300:30:30;3l359:59:59;4l111:11:11x");
+        x = Books.withRounds(1);
+        Books.typeAll(x, "0l100:10:10;1l200:20:20;2l300:30:30;3l359:59:59;4l111:11:11x");
         due.of("59 characters and a wrong one", x.pointAll(0, 0), -2000159);
         x.clearText();
-        Due.typeAll(x, "0l100:10:10;1l200:20:20;2l300:30:30;3l359:59:59;4l111:11:11");
+        Books.typeAll(x, "0l100:10:10;1l200:20:20;2l300:30:30;3l359:59:59;4l111:11:11");
         due.of("59 characters", x.pointAll(0, 0), 5);
     }
 
@@ -104,9 +104,9 @@ public final class TextsTest {
             7, 7, 8, 7, 8, 9, 10, 7,
             3, 18, 3, 0, 2, 0, 12
         };
-        FaceRounds x = Due.withRounds(1);
+        FaceRounds x = Books.withRounds(1);
         for (int i = 0; i < texts.length; i++) {
-            Due.typeAll(x, texts[i]);
+            Books.typeAll(x, texts[i]);
             due.of("pointAll of '" + texts[i] + "'", x.pointAll(0, 0), -2000100 - places[i]);
         }
         due.of("count(2)", x.count(2), 0);
@@ -118,10 +118,10 @@ public final class TextsTest {
         // Signs whose low bits look like those that are allowed.
         char[] foreign = {(char) 1632, (char) (48 + 256), (char) (48 + 65280)};
         for (char sign : foreign) {
-            FaceRounds x = Due.withRounds(1);
+            FaceRounds x = Books.withRounds(1);
             x.type(sign);
             due.of("pointAll of " + (int) sign, x.pointAll(0, 0), -2000100);
-            Due.typeAll(x, "0l");
+            Books.typeAll(x, "0l");
             x.type(sign);
             due.of("pointAll of 0l, " + (int) sign, x.pointAll(0, 0), -2000102);
         }
@@ -129,30 +129,30 @@ public final class TextsTest {
 
     private static void notPossible() {
         due.in("promise 5, not possible");
-        FaceRounds x = Due.withRounds(1);
-        Due.typeAll(x, "0l0:0:0;1l1:0:0;0l0:0:0");
+        FaceRounds x = Books.withRounds(1);
+        Books.typeAll(x, "0l0:0:0;1l1:0:0;0l0:0:0");
         due.of("twice in the text", x.pointAll(0, 0), FaceRounds.NOT_POSSIBLE);
         due.of("none of them", x.count(2), 0);
         due.of("count(7)", x.count(7), 2);
-        Due.typeAll(x, "0l0:0:0;0r0:0:0");
+        Books.typeAll(x, "0l0:0:0;0r0:0:0");
         due.of("in two faces", x.pointAll(0, 0), 2);
-        Due.typeAll(x, "1l0:0:0;0r0:0:0");
+        Books.typeAll(x, "1l0:0:0;0r0:0:0");
         due.of("pointed at already", x.pointAll(0, 0), FaceRounds.NOT_POSSIBLE);
         due.of("none of them", x.count(2), 2);
-        Due.typeAll(x, "1l0:0:0;0r0:0:0;");
+        Books.typeAll(x, "1l0:0:0;0r0:0:0;");
         due.of("the fault comes first", x.pointAll(0, 0), -2000116);
         x.close(0, 0, 1, 0);
-        Due.typeAll(x, "1l0:0:0;1r0:0:0");
+        Books.typeAll(x, "1l0:0:0;1r0:0:0");
         due.of("closed", x.pointAll(0, 0), FaceRounds.NOT_POSSIBLE);
         due.of("none of them", x.count(2), 2);
         due.of("count(7)", x.count(7), 4);
-        Due.typeAll(x, "1l0:0:0");
+        Books.typeAll(x, "1l0:0:0");
         due.of("in the open face", x.pointAll(0, 0), 1);
     }
 
     private static void unknown() {
         due.in("promise 5, unknown");
-        FaceRounds x = Due.withRounds(1);
+        FaceRounds x = Books.withRounds(1);
         due.of("no such set-up", x.pointAll(1, 0), FaceRounds.UNKNOWN);
         due.of("negative set-up", x.pointAll(-1, 0), FaceRounds.UNKNOWN);
         due.of("no such round", x.pointAll(0, 1), FaceRounds.UNKNOWN);
